@@ -10,7 +10,7 @@ public final class WellNames {
     private static final int KIND = 5;
 
     private static final int WELLS = 8;
-    private static final int ANY_WELLS = 255;
+    private static final int ALL_WELLS = 255;
     private static final int NOBODY = -1;
     private static final int MOST_PEOPLE = 6;
     private static final int MOST_WATER = 99;
@@ -336,8 +336,9 @@ public final class WellNames {
         }
         int driest = 0;
         int fewest = WELLS;
+        ways.think(p, 0);
         for (int well = 0; well < WELLS; well++) {
-            ways.think(p, 1 << well);
+            ways.startAgain(p, 1 << well);
             int others = Integer.bitCount(ways.reached() & ~(1 << well));
             if (others < fewest) {
                 fewest = others;
@@ -557,7 +558,7 @@ public final class WellNames {
     }
 
     private static boolean areWells(int set) {
-        return within(set, 0, ANY_WELLS);
+        return within(set, 0, ALL_WELLS);
     }
 
     private static boolean isKindWithNumber(int km) {
@@ -1080,6 +1081,7 @@ public final class WellNames {
 
         int mayDrink;
         private int limit;
+        private int need;
         private final World world;
         private final int[] roads;
         private final int[] cost = new int[MOST_LENGTH + 1];
@@ -1097,7 +1099,12 @@ public final class WellNames {
             for (int length = 1; length <= MOST_LENGTH; length++) {
                 cost[length] = world.parched(p, length);
             }
-            int need = world.needs(p, 0);
+            need = world.needs(p, 0);
+            startAgain(p, barred);
+        }
+
+        /** The same thought, from where one stands, with other wells barred. */
+        void startAgain(Person p, int barred) {
             mayDrink = 0;
             for (int well = 0; well < WELLS; well++) {
                 if (world.water[well] >= need && !isIn(barred, well)) {

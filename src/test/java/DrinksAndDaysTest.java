@@ -216,6 +216,11 @@ public final class DrinksAndDaysTest {
         DUE.is("17: hour above 99999", Due.STATE, x.days(20));
         DUE.is("18: hour above 99999", Due.STATE, x.loose(20));
         DUE.is("15: hour above 99999", Due.STATE, x.go(0, 0));
+        x.image();
+        DUE.is("17: hour just 99999", 1, x.days(19));
+        x.restore();
+        DUE.is("18: hour just 99999", 1, x.loose(19));
+        x.restore();
         x.road(0, 1, 19);
         DUE.is("15: just 99999", 0, x.go(0, 0));
         DUE.is("15: hour", 99999, x.count(1));
@@ -225,6 +230,10 @@ public final class DrinksAndDaysTest {
     }
 
     private static void loose() {
+        WellNames y = new WellNames();
+        y.person(20, 0);
+        DUE.is("18: alive at the limit", 0, y.loose(8));
+        DUE.is("18: dead the next day", 1, y.loose(1));
         WellNames x = new WellNames();
         x.person(20, 0);
         int z = 1;

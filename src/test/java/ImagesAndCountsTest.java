@@ -6,6 +6,7 @@ public final class ImagesAndCountsTest {
         image();
         restore();
         restoreOfFewer();
+        restoreOfPlaces();
         tell();
         check();
         count();
@@ -117,6 +118,28 @@ public final class ImagesAndCountsTest {
         for (int what = 0; what < anew.length; what++) {
             DUE.is("7: anew " + what, anew[what], x.ofPerson(0, what));
         }
+    }
+
+    private static void restoreOfPlaces() {
+        WellNames x = new WellNames();
+        x.road(0, 1, 3);
+        x.person(20, 0);
+        x.person(0, 1);
+        x.tell(0);
+        x.image();
+        x.go(0, 1);
+        x.drink(0);
+        x.check();
+        x.tell(2);
+        x.days(20);
+        DUE.is("38: all are dead", 2, x.count(3));
+        DUE.is("38: the hour", 0, x.restore());
+        int[] first = {2, 0, 0, -1, 0, 0};
+        for (int what = 0; what < first.length; what++) {
+            DUE.is("38: of the first " + what, first[what], x.ofPerson(0, what));
+        }
+        DUE.is("38: the other one", 1, x.ofPerson(1, 2));
+        DUE.is("38: the number that waits", 0, x.check());
     }
 
     private static void tell() {

@@ -97,6 +97,7 @@ public final class ThoughtTest {
         Due.text(x, 1, "l+8");
         DUE.is("20: too dry a land", Due.NONE, x.soonest(0, 1, 0));
         backToDrink();
+        longAndShort();
     }
 
     private static void backToDrink() {
@@ -114,6 +115,36 @@ public final class ThoughtTest {
         DUE.is("22: may drink at 2 and 3", 12, x.reach(0, 0, 1));
         DUE.is("23: without 2", 2, x.dry(0, 0));
         DUE.is("23: without 2", 2, x.dry(0, 1));
+    }
+
+    /** Roads as long and as short as they can be; the way begins at the last well. */
+    private static void longAndShort() {
+        WellNames x = new WellNames();
+        x.road(7, 6, 20);
+        x.road(6, 5, 1);
+        x.road(5, 4, 20);
+        x.road(4, 3, 1);
+        x.person(30, 7);
+        DUE.is("20: twenty and one", 21, x.soonest(0, 5, 0));
+        DUE.is("20: all of them", 42, x.soonest(0, 3, 0));
+        DUE.is("20: one drink at 5", 42, x.soonest(0, 3, 64));
+        DUE.is("20: no drink at 6 and 5", Due.NONE, x.soonest(0, 3, 96));
+        DUE.is("21: one drink ahead", 2, x.drinks(0, 3, 0));
+        DUE.is("22: not the first wells", 248, x.reach(0, 0, 0));
+        DUE.is("22: may drink there", 248, x.reach(0, 0, 1));
+        x.become(0, 1);
+        DUE.is("22: twenty is too long", 128, x.reach(0, 0, 0));
+        Due.text(x, 1, "l=20|l=1");
+        DUE.is("22: twenty asks for one", 248, x.reach(0, 0, 0));
+        DUE.is("20: all of them", 42, x.soonest(0, 3, 0));
+        DUE.is("21: none ahead", 1, x.drinks(0, 3, 0));
+        Due.text(x, 1, "(l=1)*13");
+        DUE.is("22: one is too long", 192, x.reach(0, 0, 0));
+        Due.text(x, 1, "(l=20)*13");
+        DUE.is("22: twenty is too long", 128, x.reach(0, 0, 0));
+        DUE.is("22: one is enough", 1, x.ofWell(7, 1));
+        DUE.is("5: roads of one hour", 2, x.ofWell(6, 1));
+        DUE.is("5: roads of one hour", 1, x.ofWell(3, 1));
     }
 
     private static void drinks() {
@@ -275,6 +306,13 @@ public final class ThoughtTest {
         DUE.is("26: the lowest bits", 6, x.walked(0));
         Due.sheet(x, 0, 32, Integer.MIN_VALUE, 0);
         DUE.is("26: no well", Due.NONE, x.walked(0));
+        x.road(2, 0, 5);
+        Due.sheet(x, 0, 32, 1, 8);
+        DUE.is("26: no well behind a well", Due.NONE, x.walked(0));
+        Due.sheet(x, 0, 32, 8, 8);
+        DUE.is("26: no well twice", Due.NONE, x.walked(0));
+        x.sheet(0, 0, 1);
+        DUE.is("26: missing again", Due.NONE, x.walked(0));
         DUE.is("26: no such sheet", Due.BEYOND, x.walked(4));
         DUE.is("26: no such sheet", Due.BEYOND, x.walked(-1));
     }
@@ -308,6 +346,17 @@ public final class ThoughtTest {
         DUE.is("27: by the text", 1, x.alive(1, 0, 0));
         Due.text(x, 1, "l-(m=4)");
         DUE.is("27: by the text, m", 0, x.alive(1, 0, 0));
+        Due.text(x, 1, "l");
+        x.become(0, 3);
+        Due.sheet(x, 1, 8, 0, 1, 2, 1);
+        DUE.is("27: a drink, and twelve behind it", 1, x.alive(1, 0, 2));
+        x.road(1, 2, 7);
+        DUE.is("27: a drink, and fourteen behind it", 0, x.alive(1, 0, 2));
+        x.road(1, 2, 6);
+        x.road(2, 3, 7);
+        Due.sheet(x, 1, 8, 0, 1, 2, 3);
+        DUE.is("27: a drink, and thirteen behind it", 0, x.alive(1, 0, 2));
+        x.road(1, 2, 6);
         Due.sheet(x, 1, 8, 0, 2);
         DUE.is("27: no road straight", Due.NONE, x.alive(1, 0, 255));
         Due.sheet(x, 1, 8, 0, 9);
@@ -344,6 +393,11 @@ public final class ThoughtTest {
         DUE.is("28: a hundred days", 3 * 9999, x.grown(2, 100, 20));
         DUE.is("28: 500", 500 + 5, x.grown(0, 1, 1));
         DUE.is("28: 500", 500 + 5 + 5, x.grown(0, 2, 1));
+        x.owe(0, 2, 9900);
+        DUE.is("28: just cut", 9999, x.grown(0, 1, 1));
+        x.owe(0, 2, 99);
+        DUE.is("28: not a whole one", 99, x.grown(0, 9, 1));
+        x.owe(0, 2, 500);
         DUE.is("28: nothing is owed", 0, x.grown(1, 100, 20));
         DUE.is("28: only thought", 10523, x.count(6));
         DUE.is("28: too many days", Due.BEYOND, x.grown(2, 101, 0));
