@@ -250,29 +250,11 @@ public final class WellNames {
     }
 
     public int days(int n) {
-        if (!within(n, 1, 60)) {
-            return refuse(BEYOND);
-        }
-        if (!world.hasDays(n)) {
-            return refuse(STATE);
-        }
-        for (int i = 0; i < n; i++) {
-            world.passDay();
-        }
-        return world.deadBehind(0);
+        return passDays(n, 60, false);
     }
 
     public int loose(int n) {
-        if (!within(n, 1, 40)) {
-            return refuse(BEYOND);
-        }
-        if (!world.hasDays(n)) {
-            return refuse(STATE);
-        }
-        for (int i = 0; i < n; i++) {
-            world.passLooseDay();
-        }
-        return world.deadBehind(0);
+        return passDays(n, 40, true);
     }
 
     public int same() {
@@ -282,35 +264,11 @@ public final class WellNames {
     // ---- what would be
 
     public int soonest(int person, int well, int barred) {
-        if (!isPerson(person) || !isWell(well) || !areWells(barred)) {
-            return refuse(BEYOND);
-        }
-        Person p = world.persons[person];
-        if (p.dead) {
-            return refuse(STATE);
-        }
-        if (p.name == well) {
-            return 0;
-        }
-        ways.think(p, barred);
-        int hours = ways.soonestHours(well);
-        return hours < 0 ? refuse(NONE) : hours;
+        return leastTill(person, well, barred, true);
     }
 
     public int drinks(int person, int well, int barred) {
-        if (!isPerson(person) || !isWell(well) || !areWells(barred)) {
-            return refuse(BEYOND);
-        }
-        Person p = world.persons[person];
-        if (p.dead) {
-            return refuse(STATE);
-        }
-        if (p.name == well) {
-            return 0;
-        }
-        ways.think(p, barred);
-        int fewest = ways.fewestDrinks(well);
-        return fewest < 0 ? refuse(NONE) : fewest;
+        return leastTill(person, well, barred, false);
     }
 
     public int reach(int person, int barred, int what) {
@@ -538,6 +496,38 @@ public final class WellNames {
 
     public int told(int k) {
         return within(k, BEYOND, KIND) ? refused[k] : refuse(BEYOND);
+    }
+
+    private int passDays(int n, int most, boolean byDraws) {
+        if (!within(n, 1, most)) {
+            return refuse(BEYOND);
+        }
+        if (!world.hasDays(n)) {
+            return refuse(STATE);
+        }
+        for (int i = 0; i < n; i++) {
+            if (byDraws) {
+                world.drawWater();
+            }
+            world.passDay();
+        }
+        return world.deadBehind(0);
+    }
+
+    private int leastTill(int person, int well, int barred, boolean byHours) {
+        if (!isPerson(person) || !isWell(well) || !areWells(barred)) {
+            return refuse(BEYOND);
+        }
+        Person p = world.persons[person];
+        if (p.dead) {
+            return refuse(STATE);
+        }
+        if (p.name == well) {
+            return 0;
+        }
+        ways.think(p, barred);
+        int least = byHours ? ways.soonestHours(well) : ways.fewestDrinks(well);
+        return least < 0 ? refuse(NONE) : least;
     }
 
     private int refuse(int error) {
@@ -802,13 +792,12 @@ public final class WellNames {
             hour++;
         }
 
-        void passLooseDay() {
+        void drawWater() {
             int well = draw() % WELLS;
             int v = draw() % 20;
             if (isWell(well)) {
                 water[well] = v;
             }
-            passDay();
         }
 
         private int draw() {
