@@ -4,11 +4,16 @@ public final class DrinksAndDaysTest {
 
     public static void main(String[] args) {
         drink();
+        justEnough();
         called();
+        calledAheadOfNobody();
         go();
         goByText();
+        limitsByWays();
         pay();
         days();
+        limitsByDays();
+        rainOverTheEdge();
         loose();
         same();
         DUE.end();
@@ -48,6 +53,40 @@ public final class DrinksAndDaysTest {
         DUE.is("14: by the text, held", 0, y.ofWell(1, 0));
         Due.text(y, 0, "0");
         DUE.is("14: needs nothing", -1, y.drink(0));
+    }
+
+    /** Of each kind and number: one less than it needs is too little, just as much is enough. */
+    private static void justEnough() {
+        for (int km = 0; km < 70; km++) {
+            WellNames x = new WellNames();
+            x.person(km, 5);
+            x.rain(0);
+            x.days(8);
+            int camel = 1 + 8 / 4;
+            int needs = km < 30 || km >= 40 && km < 60 ? 1 : km < 40 ? camel : camel + km % 10;
+            DUE.is("8: needs of " + km, needs, x.ofPerson(0, 7));
+            x.water(5, needs - 1);
+            DUE.is("14: one too little for " + km, Due.STATE, x.drink(0));
+            DUE.is("14: nothing is drunk by " + km, needs - 1, x.ofWell(5, 0));
+            DUE.is("14: the thirst stays with " + km, 8, x.ofPerson(0, 4));
+            x.water(5, needs);
+            DUE.is("14: just enough for " + km, 5, x.drink(0));
+            DUE.is("14: nothing is left by " + km, 0, x.ofWell(5, 0));
+            DUE.is("14: no thirst with " + km, 0, x.ofPerson(0, 4));
+        }
+    }
+
+    private static void calledAheadOfNobody() {
+        int[] odd = {3, 3, 3, -1, 3, 3, -1};
+        for (int kind = 0; kind < 7; kind++) {
+            WellNames x = new WellNames();
+            x.person(kind * 10, 3);
+            x.days(1);
+            DUE.is("14: kind " + kind + ", nobody's ahead, hour 1", odd[kind], x.drink(0));
+            x.days(1);
+            DUE.is("14: kind " + kind + ", hour 2", kind == 5 ? -1 : 3, x.drink(0));
+            DUE.is("14: kind " + kind + " told", kind == 5 ? -1 : 3, x.ofPerson(0, 3));
+        }
     }
 
     private static void called() {
@@ -132,7 +171,82 @@ public final class DrinksAndDaysTest {
         DUE.is("15: dead by the limit alone", 1, x.ofPerson(0, 5));
     }
 
+    private static int limitOf(int km) {
+        int m = km % 10;
+        int[] limits = {12, 12 + m, 8, 36, 12 + m, 8 + m / 2, 36};
+        return limits[km / 10];
+    }
+
+    private static void limitsByWays() {
+        for (int km = 0; km < 70; km++) {
+            for (int more = 0; more < 2; more++) {
+                WellNames x = new WellNames();
+                int thirst = limitOf(km) + more;
+                x.road(0, 1, 1);
+                x.road(1, 2, 20);
+                x.person(km, 0);
+                x.water(1, 10);
+                x.water(2, 10);
+                Due.sheet(x, 0, 8, 0, 1);
+                Due.text(x, 1, "" + thirst);
+                DUE.is("22: " + km + " with " + thirst, more == 0 ? 3 : 1, x.reach(0, 255, 0));
+                DUE.is("20: " + km + " with " + thirst, more == 0 ? 1 : Due.NONE, x.soonest(0, 1, 1));
+                DUE.is("20: " + km + " with " + thirst + " twice", more == 0 ? 21 : Due.NONE, x.soonest(0, 2, 1));
+                DUE.is("20: " + km + " with " + thirst + " twice", Due.NONE, x.soonest(0, 2, 3));
+                DUE.is("21: " + km + " with " + thirst, more == 0 ? 2 : Due.NONE, x.drinks(0, 2, 1));
+                DUE.is("27: " + km + " with " + thirst, 1 - more, x.alive(0, 0, 0));
+                DUE.is("15: " + km + " with " + thirst, thirst, x.go(0, 1));
+                DUE.is("15: " + km + " dead of " + thirst, more, x.ofPerson(0, 5));
+            }
+        }
+    }
+
+    private static void limitsByDays() {
+        for (int km = 0; km < 70; km++) {
+            WellNames x = new WellNames();
+            x.person(km, 0);
+            int limit = limitOf(km);
+            DUE.is("17: alive at the limit of " + km, 0, x.days(limit));
+            x.tell(1);
+            DUE.is("40: dead the next day, " + km, 0, x.check());
+            x.image();
+            DUE.is("17: dead the next day, " + km, 1, x.days(1));
+            DUE.is("17: with the thirst of that day, " + km, limit + 1, x.ofPerson(0, 4));
+            x.restore();
+            DUE.is("18: dead the next day, " + km, 1, x.loose(1));
+            DUE.is("18: the dead thirst no more, " + km, 1, x.loose(40));
+            DUE.is("18: with the thirst of that day, " + km, limit + 1, x.ofPerson(0, 4));
+        }
+    }
+
+    private static void rainOverTheEdge() {
+        for (int rain = 0; rain < 10; rain++) {
+            WellNames x = new WellNames();
+            x.rain(rain);
+            for (int well = 0; well < 8; well++) {
+                x.water(well, 88 + well);
+            }
+            x.days(1);
+            for (int well = 0; well < 8; well++) {
+                DUE.is("17: rain " + rain, Math.min(99, 88 + well + rain), x.ofWell(well, 0));
+            }
+        }
+    }
+
     private static void pay() {
+        WellNames y = new WellNames();
+        y.person(0, 0);
+        y.drink(0);
+        y.owe(0, 7, 9999);
+        DUE.is("16: all at once", 0, y.pay(0, 7, 9999));
+        DUE.is("16: nothing is owed", Due.STATE, y.pay(0, 7, 1));
+        y.owe(0, 7, 1);
+        DUE.is("16: the least", 0, y.pay(0, 7, 1));
+        DUE.is("16: not to the other one", 0, y.ofWell(7, 4));
+        manyPayments();
+    }
+
+    private static void manyPayments() {
         WellNames x = new WellNames();
         x.person(0, 3);
         x.owe(3, 5, 9999);
@@ -260,6 +374,15 @@ public final class DrinksAndDaysTest {
     }
 
     private static void same() {
+        WellNames y = new WellNames();
+        DUE.is("19: nobody", 0, y.same());
+        y.person(0, 0);
+        y.drink(0);
+        DUE.is("19: one alone", 0, y.same());
+        y.person(0, 0);
+        DUE.is("19: one with a name, one without", 0, y.same());
+        y.drink(1);
+        DUE.is("19: two", 1, y.same());
         WellNames x = new WellNames();
         for (int i = 0; i < 6; i++) {
             x.person(0, i / 4);

@@ -168,6 +168,9 @@ public final class ImagesAndCountsTest {
             x.tell(v);
         }
         DUE.is("40: behind 1, 2, .. days", 0, x.check());
+        DUE.is("40: only thought", 6, x.count(1));
+        DUE.is("40: only thought", 6, x.ofPerson(0, 4));
+        DUE.is("40: only thought", 15, x.ofWell(0, 0));
         DUE.is("40: only thought", 6, x.count(2));
         DUE.is("40: only thought", 0, x.count(3));
         for (int place = 0; place < dead.length; place++) {
@@ -176,6 +179,16 @@ public final class ImagesAndCountsTest {
             }
             DUE.is("40: the first that isn't so", 1 + place, x.check());
         }
+        for (int i = 0; i < 20; i++) {
+            x.tell(i < 2 ? 0 : i < 6 ? 2 : i < 19 ? 4 : 3);
+        }
+        DUE.is("40: the last of twenty", 20, x.check());
+        for (int i = 0; i < 20; i++) {
+            x.tell(i < 2 ? 0 : i < 6 ? 2 : 4);
+        }
+        DUE.is("40: all of twenty", 0, x.check());
+        x.tell(-1);
+        DUE.is("40: below", 1, x.check());
         x.days(3);
         x.become(0, 20);
         DUE.is("40: two are dead", 2, x.count(3));

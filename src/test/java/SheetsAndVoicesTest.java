@@ -61,6 +61,7 @@ public final class SheetsAndVoicesTest {
         says(0, 0, Integer.MAX_VALUE, Integer.MIN_VALUE, 10);
         says(5, 1, Integer.MAX_VALUE, (Integer.MIN_VALUE + 1) * 2 + 3, 60, 30, 11, 10, 12);
         says(0, 0, -1000000003, -1000000002, 10);
+        voiceGoesRound();
         WellNames x = new WellNames();
         DUE.is("30: nobody there", Due.BEYOND, x.voice(0, 0, 0));
         x.person(0, 0);
@@ -71,6 +72,25 @@ public final class SheetsAndVoicesTest {
         DUE.is("30: any number is no error", 4, x.told(1));
         x.days(13);
         DUE.is("30: the dead have voices", 7, x.voice(0, 0, 7));
+    }
+
+    // As ints go round: n is 1 and m is 4.
+    private static void voiceGoesRound() {
+        int max = Integer.MAX_VALUE;
+        int min = Integer.MIN_VALUE;
+        says(0, 1, max, 0, 11, 10);
+        says(0, 2, min, max - 3, 12);
+        says(0, 2, min + 3, max, 12);
+        says(0, 3, min, 2 ^ (max - 3), 13, 11, 10, 12);
+        says(1, 0, max, min, 20, 10);
+        says(1, 0, max / 3 + 1, min + 4, 20, 10);
+        says(1, 1, max, 0, 11, 20, 10);
+        says(2, 1, max, 3, 30, 11, 10, 12);
+        says(2, 1, max / 2, min + 3, 30, 11, 10, 12);
+        says(3, 2, min + 4, min, 40, 12);
+        says(3, 2, min, min + 4, 40, 12);
+        says(4, 3, min + 3, (24 ^ max) - 9, 50, 13, 11, 20, 10, 12, 20, 10);
+        says(6, 2, min + 4, min + 1, 70, 40, 12);
     }
 
     private static void trace() {
@@ -192,6 +212,33 @@ public final class SheetsAndVoicesTest {
         DUE.is("34: no such sheet", Due.BEYOND, x.move(0, 0, -1, 0, 1));
         holds("34: nothing changed", x, 0, 2, 3, 4, 3, 4);
         holds("34: nothing changed", x, 1, 11, 4, 5);
+        DUE.is("34: none of none", 0, x.move(1, 3, 1, 3, 0));
+        x.sheet(2, 8, 0);
+        DUE.is("34: none of an empty one", 0, x.move(2, 0, 2, 0, 0));
+        DUE.is("34: none to an empty one", 0, x.move(0, 0, 2, 0, 0));
+        DUE.is("34: one to an empty one", Due.BEYOND, x.move(0, 0, 2, 0, 1));
+        DUE.is("34: one of an empty one", Due.BEYOND, x.move(2, 0, 0, 0, 1));
+        wholeSheets();
+    }
+
+    private static void wholeSheets() {
+        WellNames x = new WellNames();
+        for (int bits = 8; bits <= 32; bits *= 2) {
+            x.sheet(0, bits, 40);
+            x.sheet(1, bits, 40);
+            for (int i = 0; i < 40; i++) {
+                DUE.is("33: each of forty", 1, x.put(0, i, i));
+            }
+            DUE.is("34: forty", 40, x.move(0, 0, 1, 0, 40));
+            DUE.is("34: one more", Due.BEYOND, x.move(0, 0, 1, 0, 41));
+            holds("34: forty", x, 1, 0, 1, 2, 3, 4, 5, 6, 7);
+            DUE.is("34: one up", 39, x.move(1, 0, 1, 1, 39));
+            holds("34: one up", x, 1, 0, 0, 1, 2, 3, 4, 5, 6);
+            DUE.is("34: the last to the first", 1, x.move(1, 39, 1, 0, 1));
+            holds("34: the last to the first", x, 1, 38, 0, 1, 2, 3, 4, 5, 6);
+            DUE.is("34: one and the same place", 40, x.move(1, 0, 1, 0, 40));
+            holds("34: one and the same place", x, 1, 38, 0, 1, 2, 3, 4, 5, 6);
+        }
     }
 
     private static void waters() {
@@ -207,6 +254,22 @@ public final class SheetsAndVoicesTest {
         Due.sheet(x, 0, 8, 10, 11, 12, 13, 14, 15, 16, 17, 18, 19);
         DUE.is("35: up to the last well", 8, x.waters(0));
         DUE.is("35: taken", 17, x.ofWell(7, 0));
+        Due.sheet(x, 0, 16, 20, 21, 22, 23, 24, 25, 26, 27);
+        DUE.is("35: just as many", 8, x.waters(0));
+        DUE.is("35: taken", 27, x.ofWell(7, 0));
+        Due.sheet(x, 0, 16, 30, 31, 32, 33, 34, 35, 36, 100);
+        DUE.is("35: all but the last", 7, x.waters(0));
+        DUE.is("35: taken", 36, x.ofWell(6, 0));
+        DUE.is("35: not taken", 27, x.ofWell(7, 0));
+        Due.sheet(x, 0, 8, 100, 1);
+        DUE.is("35: not the first", 0, x.waters(0));
+        Due.sheet(x, 0, 8, 128);
+        DUE.is("35: eight bits below 0", 0, x.waters(0));
+        Due.sheet(x, 0, 16, 32768);
+        DUE.is("35: sixteen bits below 0", 0, x.waters(0));
+        Due.sheet(x, 0, 32, Integer.MIN_VALUE);
+        DUE.is("35: far below 0", 0, x.waters(0));
+        DUE.is("35: nothing is taken", 30, x.ofWell(0, 0));
         Due.sheet(x, 0, 8);
         DUE.is("35: no numbers", 0, x.waters(0));
         DUE.is("35: no error", 0, x.told(1));
@@ -219,12 +282,25 @@ public final class SheetsAndVoicesTest {
         WellNames x = new WellNames();
         Due.sheet(x, 0, 8);
         DUE.is("36: nobody and nothing", -1, x.judge(0));
+        Due.sheet(x, 0, 8, -1);
+        DUE.is("36: too many for nobody", 0, x.judge(0));
+        Due.sheet(x, 0, 8);
         x.person(0, 3);
         x.person(0, 4);
         x.person(0, 5);
         x.drink(0);
         x.drink(1);
         DUE.is("36: the first lacks", 0, x.judge(0));
+        Due.sheet(x, 0, 8, 4, 4, -1);
+        DUE.is("36: the first isn't so", 0, x.judge(0));
+        Due.sheet(x, 0, 8, -1, 4);
+        DUE.is("36: the first isn't so, though one lacks", 0, x.judge(0));
+        Due.sheet(x, 0, 8, 3, 4, 5, -1);
+        DUE.is("36: one isn't so ahead of one too many", 2, x.judge(0));
+        Due.sheet(x, 0, 16, 3, 4 + 256, -1);
+        DUE.is("36: all sixteen bits", 1, x.judge(0));
+        Due.sheet(x, 0, 8, 3 + 256, 4 - 256, 255);
+        DUE.is("36: the lowest eight bits", -1, x.judge(0));
         Due.sheet(x, 0, 8, 3, 4);
         DUE.is("36: the third lacks", 2, x.judge(0));
         Due.sheet(x, 0, 8, 3, 4, -1);

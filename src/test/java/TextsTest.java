@@ -6,8 +6,11 @@ public final class TextsTest {
         feed();
         textOfUse();
         faults();
+        eachByte();
+        longest();
         open();
         law();
+        wraps();
         withoutText();
         DUE.end();
     }
@@ -55,6 +58,9 @@ public final class TextsTest {
         for (int k = 2; k <= 5; k++) {
             DUE.is("12: a fault is no error", 0, x.told(k));
         }
+        DUE.is("12: a long one", 1, Due.text(x, 0, "!!m"));
+        DUE.is("12: a shorter one in its place", 1, Due.text(x, 0, "m"));
+        DUE.is("12: nothing is left of the long one", 7, x.law(0, 7, 0, 0));
         String longest = "1+1+1+1+1+1+1+1+1+1+1+1+1+1+1+1+1+1+1+1+1+1+1+1+11";
         DUE.is("12: all of the tape", 1, Due.text(x, 0, longest));
         DUE.is("12: what it gives", 35, x.law(0, 0, 0, 0));
@@ -115,6 +121,93 @@ public final class TextsTest {
         fault(0, "m" + (char) 255, 1);
         fault(0, "1*/2", 2);
         fault(0, "1%", 2);
+    }
+
+    /** Each byte as the first one, behind a name, behind a comparison, and behind a number of 3 and of 4 digits. */
+    private static void eachByte() {
+        String digits = "0123456789";
+        String between = "|&<=>+-*/%";
+        for (int use = 0; use < 2; use++) {
+            String begins = "md!(" + digits + (use == 0 ? "t" : "l");
+            for (int c = 0; c < 256; c++) {
+                byteBehind(use, "", c, begins, "!(");
+                byteBehind(use, "m+", c, begins, "!(");
+                byteBehind(use, "!", c, begins, "!(");
+                byteBehind(use, "(", c, begins, begins);
+                byteBehind(use, "m", c, between, between);
+                byteBehind(use, "1=d", c, "|&+-*/%", "|&+-*/%");
+                byteBehind(use, "(m", c, between + ")", between);
+                byteBehind(use, "123", c, digits + between, between);
+                byteBehind(use, "1234", c, between, between);
+                byteBehind(use, "(m)", c, between, between);
+            }
+        }
+    }
+
+    // With a byte that goes on the text either ends well or too early; an open parenthesis always ends too early.
+    private static void byteBehind(int use, String ahead, int c, String goesOn, String tooEarly) {
+        WellNames x = new WellNames();
+        Due.feed(x, ahead + (char) c);
+        int n = ahead.length();
+        int due = goesOn.indexOf(c) < 0 ? -10 - n : tooEarly.indexOf(c) >= 0 ? -11 - n : 1;
+        DUE.is("12: use " + use + " " + ahead + " and byte " + c, due, x.text(use));
+        DUE.is("12: the tape is empty then", 0, x.count(7));
+    }
+
+    private static void longest() {
+        String ahead = "1+1+1+1+1+1+1+1+1+1+1+1+1+1+1+1+1+1+1+1+1+1+1+1+";
+        fault(0, ahead + "11", -1);
+        fault(0, ahead + "1+", 50);
+        fault(0, ahead + "1m", 49);
+        fault(0, ahead + "+1", 48);
+        fault(1, ahead + "1", -1);
+        fault(1, ahead, 48);
+        WellNames x = new WellNames();
+        DUE.is("12: fifty bytes of many kinds", 1, Due.text(x, 0, "((m+1)*2-t)/3%9999+!0*(d<55)+(1|!(!!m))*4-12/3+005"));
+        DUE.is("13: what it gives", 8, x.law(0, 3, 1, 7));
+    }
+
+    private static void wraps() {
+        WellNames x = new WellNames();
+        int max = Integer.MAX_VALUE;
+        int min = Integer.MIN_VALUE;
+        lawOf(x, "l+m", 0, max, 1);
+        lawOf(x, "l+m", 99, min, -1);
+        lawOf(x, "l-m", 99, min, 1);
+        lawOf(x, "l-m", 0, max, -1);
+        lawOf(x, "l*m", 0, max, 2);
+        lawOf(x, "l*m+7", 7, 65536, 65536);
+        lawOf(x, "l*m", 99, min + 1, -1);
+        lawOf(x, "l*m<0", 1, min, -1);
+        lawOf(x, "l/m<0", 1, min, -1);
+        lawOf(x, "l%m+7", 7, min, -1);
+        lawOf(x, "l/m+7", 7, min, 0);
+        lawOf(x, "l%m+7", 7, min, 0);
+        lawOf(x, "l/m+7", 5, -5, 2);
+        lawOf(x, "l%m+7", 6, -5, 2);
+        lawOf(x, "l/m+7", 5, 5, -2);
+        lawOf(x, "l%m+7", 8, 5, -2);
+        lawOf(x, "l", 99, 99, 0);
+        lawOf(x, "l", 99, 100, 0);
+        lawOf(x, "l", 0, 0, 0);
+        lawOf(x, "l", 0, -1, 0);
+        lawOf(x, "l", 0, min, 0);
+        lawOf(x, "l", 99, max, 0);
+        lawOf(x, "l<m", 1, min, max);
+        lawOf(x, "l>m", 1, max, min);
+        lawOf(x, "9999", 99, 0, 0);
+        lawOf(x, "0000", 0, 5, 5);
+        lawOf(x, "0/0+0%0+3", 3, 0, 0);
+        x.feed(0x352B342B332B326DL, 8);
+        DUE.is("12: eight bytes at once, no sign between two", -11, x.text(1));
+        x.feed(0x35332B342B332B6DL, 8);
+        DUE.is("12: eight bytes at once", 1, x.text(1));
+        DUE.is("13: m+3+4+35, the lowest byte first", 43, x.law(1, 9, 1, 9));
+    }
+
+    private static void lawOf(WellNames x, String bytes, int due, int l, int m) {
+        DUE.is("12: " + bytes, 1, Due.text(x, 1, bytes));
+        DUE.is("13: " + bytes + " of " + l + " and " + m, due, x.law(1, l, m, 0));
     }
 
     private static void open() {

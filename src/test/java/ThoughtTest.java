@@ -4,6 +4,7 @@ public final class ThoughtTest {
 
     public static void main(String[] args) {
         soonest();
+        soonestAtTheEdges();
         soonestByText();
         drinks();
         reach();
@@ -68,6 +69,44 @@ public final class ThoughtTest {
         x.days(13);
         DUE.is("20: dead, though it is the name", Due.STATE, x.soonest(0, 0, 0));
         DUE.is("20: beyond comes ahead", Due.BEYOND, x.soonest(0, 8, 0));
+    }
+
+    /** Roads of one hour, of twenty, and of just so many that a drink behind or ahead of them is enough. */
+    private static void soonestAtTheEdges() {
+        WellNames x = new WellNames();
+        x.road(0, 1, 1);
+        x.road(1, 2, 12);
+        x.road(2, 3, 1);
+        x.person(0, 0);
+        DUE.is("20: one hour", 1, x.soonest(0, 1, 0));
+        DUE.is("20: a drink, and twelve behind it", 13, x.soonest(0, 2, 0));
+        DUE.is("20: thirteen", Due.NONE, x.soonest(0, 2, 2));
+        DUE.is("21: thirteen", Due.NONE, x.drinks(0, 2, 2));
+        DUE.is("22: thirteen", 3, x.reach(0, 2, 0));
+        DUE.is("20: a drink at 2, and one hour", 14, x.soonest(0, 3, 0));
+        DUE.is("20: twelve and one", Due.NONE, x.soonest(0, 3, 4));
+        DUE.is("21: two on the way", 3, x.drinks(0, 3, 0));
+        x.road(1, 2, 13);
+        DUE.is("20: a drink, and thirteen behind it", Due.NONE, x.soonest(0, 2, 0));
+        DUE.is("21: a drink, and thirteen behind it", Due.NONE, x.drinks(0, 2, 0));
+        DUE.is("22: a drink, and thirteen behind it", 3, x.reach(0, 0, 0));
+        x.road(1, 4, 10);
+        x.road(4, 2, 10);
+        DUE.is("20: thirteen is too far, around it isn't", 21, x.soonest(0, 2, 0));
+        x.road(4, 2, 0);
+        x.become(0, 18);
+        x.road(1, 2, 20);
+        DUE.is("20: a drink, and twenty behind it", 21, x.soonest(0, 2, 0));
+        DUE.is("20: twenty and one", Due.NONE, x.soonest(0, 2, 2));
+        x.road(0, 1, 0);
+        DUE.is("20: no road any more", Due.NONE, x.soonest(0, 2, 0));
+        DUE.is("20: where one stands", 0, x.soonest(0, 0, 0));
+        x.water(0, 0);
+        DUE.is("20: no water where one stands", Due.NONE, x.soonest(0, 0, 0));
+        DUE.is("21: no water where one stands", Due.NONE, x.drinks(0, 0, 0));
+        x.water(0, 1);
+        DUE.is("20: just enough where one stands", 0, x.soonest(0, 0, 0));
+        DUE.is("21: just enough where one stands", 1, x.drinks(0, 0, 0));
     }
 
     private static void soonestByText() {

@@ -119,6 +119,31 @@ public final class WellsAndPeopleTest {
         DUE.is("5: no such well", Due.BEYOND, x.ofWell(8, 0));
         DUE.is("5: no such well", Due.BEYOND, x.ofWell(-1, 9));
         DUE.is("5: each told once", 4, x.told(1));
+        ofAFullWell();
+    }
+
+    private static void ofAFullWell() {
+        WellNames x = new WellNames();
+        for (int other = 0; other < 7; other++) {
+            x.road(7, other, 1 + other);
+            x.owe(7, other, 9999);
+            x.owe(other, 7, 1);
+        }
+        for (int i = 0; i < 6; i++) {
+            x.person(0, 7);
+            x.drink(i);
+        }
+        DUE.is("5: six have drunk", 3, x.ofWell(7, 0));
+        DUE.is("5: roads to all others", 7, x.ofWell(7, 1));
+        DUE.is("5: all six have its name", 63, x.ofWell(7, 2));
+        DUE.is("5: all six are at it", 63, x.ofWell(7, 3));
+        DUE.is("5: the most that one can owe", 7 * 9999, x.ofWell(7, 4));
+        DUE.is("8: the most that one can owe", 7 * 9999, x.ofPerson(5, 8));
+        DUE.is("41: owed in all", 7 * 9999 + 7, x.count(6));
+        DUE.is("19: fifteen pairs", 15, x.same());
+        x.days(13);
+        DUE.is("5: all are dead", 0, x.ofWell(7, 2) + x.ofWell(7, 3) + x.same());
+        DUE.is("41: all are dead", 6, x.count(3));
     }
 
     private static void rain() {
