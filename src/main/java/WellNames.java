@@ -39,7 +39,7 @@ public final class WellNames {
 
     private final World world = new World();
     private final World kept = new World();
-    private final Ways ways = new Ways(world);
+    private final Ways ways = new Ways();
     private final Reader reader = new Reader();
     private final Voices voices = new Voices();
     private final Sheet[] sheets = new Sheet[SHEETS];
@@ -279,7 +279,7 @@ public final class WellNames {
         if (p.dead) {
             return refuse(STATE);
         }
-        ways.think(p, barred);
+        ways.think(world, p, barred);
         int reached = ways.reached();
         return what == 0 ? reached : reached & ways.mayDrink;
     }
@@ -294,7 +294,7 @@ public final class WellNames {
         }
         int driest = 0;
         int fewest = WELLS;
-        ways.think(p, 0);
+        ways.think(world, p, 0);
         for (int well = 0; well < WELLS; well++) {
             ways.startAgain(p, 1 << well);
             int others = Integer.bitCount(ways.reached() & ~(1 << well));
@@ -307,7 +307,7 @@ public final class WellNames {
     }
 
     public int net() {
-        int length = ways.leastNet();
+        int length = ways.leastNet(world);
         return length < 0 ? refuse(NONE) : length;
     }
 
@@ -315,7 +315,7 @@ public final class WellNames {
         if (!isWell(a) || !isWell(b)) {
             return refuse(BEYOND);
         }
-        int length = ways.shortestWay(a, b);
+        int length = ways.shortestWay(world, a, b);
         return length < 0 ? refuse(NONE) : length;
     }
 
@@ -323,7 +323,7 @@ public final class WellNames {
         if (!isSheet(sheet)) {
             return refuse(BEYOND);
         }
-        int hours = ways.walkedHours(sheets[sheet]);
+        int hours = Ways.walkedHours(world, sheets[sheet]);
         return hours < 0 ? refuse(NONE) : hours;
     }
 
@@ -331,10 +331,10 @@ public final class WellNames {
         if (!isSheet(sheet) || !isPerson(person) || !areWells(set)) {
             return refuse(BEYOND);
         }
-        if (ways.walkedHours(sheets[sheet]) < 0) {
+        if (Ways.walkedHours(world, sheets[sheet]) < 0) {
             return refuse(NONE);
         }
-        return ways.comesAlive(sheets[sheet], world.persons[person], set) ? 1 : 0;
+        return Ways.comesAlive(world, sheets[sheet], world.persons[person], set) ? 1 : 0;
     }
 
     public int grown(int name, int n, int p) {
@@ -525,7 +525,7 @@ public final class WellNames {
         if (p.name == well) {
             return 0;
         }
-        ways.think(p, barred);
+        ways.think(world, p, barred);
         int least = byHours ? ways.soonestHours(well) : ways.fewestDrinks(well);
         return least < 0 ? refuse(NONE) : least;
     }
@@ -1070,36 +1070,32 @@ public final class WellNames {
 
         int mayDrink;
         private int limit;
-        private int need;
-        private final World world;
-        private final int[] roads;
+        private int enoughWater;
+        private final int[] roads = new int[WELLS * WELLS];
         private final int[] cost = new int[MOST_LENGTH + 1];
         private final int[] least = new int[WELLS];
         private final int[] hours = new int[RING * WELLS];
 
-        Ways(World world) {
-            this.world = world;
-            roads = world.roads;
-        }
-
         /** Begins a thought about somebody alive; what is asked next is of it. */
-        void think(Person p, int barred) {
+        void think(World world, Person p, int barred) {
+            lookAtRoads(world);
             limit = p.limit();
             for (int length = 1; length <= MOST_LENGTH; length++) {
                 cost[length] = world.parched(p, length);
             }
-            need = world.needs(p, 0);
+            int need = world.needs(p, 0);
+            enoughWater = 0;
+            for (int well = 0; well < WELLS; well++) {
+                if (world.water[well] >= need) {
+                    enoughWater |= 1 << well;
+                }
+            }
             startAgain(p, barred);
         }
 
         /** The same thought, from where one stands, with other wells barred. */
         void startAgain(Person p, int barred) {
-            mayDrink = 0;
-            for (int well = 0; well < WELLS; well++) {
-                if (world.water[well] >= need && !isIn(barred, well)) {
-                    mayDrink |= 1 << well;
-                }
-            }
+            mayDrink = enoughWater & ~barred;
             Arrays.fill(least, NEVER);
             least[p.at] = p.thirst;
         }
@@ -1150,7 +1146,8 @@ public final class WellNames {
             return -1;
         }
 
-        int shortestWay(int a, int b) {
+        int shortestWay(World world, int a, int b) {
+            lookAtRoads(world);
             limit = NEVER - 1;
             for (int length = 0; length <= MOST_LENGTH; length++) {
                 cost[length] = length;
@@ -1161,7 +1158,8 @@ public final class WellNames {
             return least[b] < NEVER ? least[b] : -1;
         }
 
-        int leastNet() {
+        int leastNet(World world) {
+            lookAtRoads(world);
             Arrays.fill(least, NEVER);
             least[0] = 0;
             int joined = 0;
@@ -1184,7 +1182,7 @@ public final class WellNames {
         }
 
         /** -1, if the sheet tells no row of wells that can be walked. */
-        int walkedHours(Sheet s) {
+        static int walkedHours(World world, Sheet s) {
             int sum = 0;
             for (int i = 0; i < s.size; i++) {
                 int well = s.numbers[i];
@@ -1192,7 +1190,7 @@ public final class WellNames {
                 if (!isWell(well) || !isWell(ahead)) {
                     return -1;
                 }
-                int length = roads[ahead * WELLS + well];
+                int length = world.roads[ahead * WELLS + well];
                 if (well != ahead && length == 0) {
                     return -1;
                 }
@@ -1201,7 +1199,7 @@ public final class WellNames {
             return s.size == 0 ? -1 : sum;
         }
 
-        boolean comesAlive(Sheet s, Person p, int set) {
+        static boolean comesAlive(World world, Sheet s, Person p, int set) {
             int thirst = 0;
             int most = p.limit();
             for (int i = 1; i < s.size; i++) {
@@ -1209,7 +1207,7 @@ public final class WellNames {
                 int ahead = s.numbers[i - 1];
                 // Who stays goes by no road: no text is asked for it.
                 if (isWell(well) && isWell(ahead) && well != ahead) {
-                    thirst += world.parched(p, roads[ahead * WELLS + well]);
+                    thirst += world.parched(p, world.roads[ahead * WELLS + well]);
                 }
                 if (thirst > most) {
                     return false;
@@ -1219,6 +1217,11 @@ public final class WellNames {
                 }
             }
             return true;
+        }
+
+        // A copy: no constructor may hand out a row of the object that it makes, so the world's own isn't kept here.
+        private void lookAtRoads(World world) {
+            System.arraycopy(world.roads, 0, roads, 0, WELLS * WELLS);
         }
 
         private boolean drinkWherePossible() {

@@ -37,6 +37,7 @@ public final class LanguageTest {
         DUE.so("signs are 1 to 127", text.chars().allMatch(c -> c > 0 && c < 128));
         words(text.replaceAll("(?s)/\\*.*?\\*/", " ").replaceAll("//[^\n]*", " "));
         lengths(text);
+        made(text);
         DUE.end();
     }
 
@@ -74,6 +75,10 @@ public final class LanguageTest {
         for (Method m : c.getDeclaredMethods()) {
             DUE.so("rule 1: no such name: " + m, isFree(m.getName()));
         }
+        for (Constructor<?> made : c.getDeclaredConstructors()) {
+            DUE.so("rule 12: takes no part of what is being made: " + made,
+                Arrays.stream(made.getParameterTypes()).allMatch(Class::isPrimitive));
+        }
         fields(c);
     }
 
@@ -103,6 +108,24 @@ public final class LanguageTest {
         }
         DUE.so("rule 2: no lambda, no method reference", !code.contains("->") && !code.contains("::"));
         DUE.so("rule 5: no static block", !Pattern.compile("static\\s*\\{").matcher(code).find());
+    }
+
+    /** Objects are made by fields and by constructors alone, so that no run of calls makes any (rule 12). */
+    private static void made(String text) {
+        String method = "";
+        String end = "";
+        for (String line : text.split("\n")) {
+            if (method.isEmpty() && line.matches("( {4}| {8})\\w.*\\) \\{")) {
+                method = line.trim();
+                end = line.substring(0, line.indexOf(method)) + "}";
+            } else if (line.equals(end)) {
+                method = "";
+            }
+            boolean makes = Pattern.compile("\\bnew\\b|\\.clone\\(|Arrays\\.copyOf").matcher(line).find();
+            boolean constructor = method.matches("(public )?[A-Z]\\w*\\(.*");
+            boolean field = method.isEmpty() && line.matches(" +private static final .*| +(private )?final .*");
+            DUE.so("rule 12: made in a call: " + line.trim(), !makes || constructor || field);
+        }
     }
 
     private static void lengths(String text) {

@@ -417,6 +417,16 @@ public final class ThoughtTest {
         DUE.is("27: two roads, and two more", 0, x.alive(1, 0, 0));
         x.become(0, 12);
         DUE.is("27: no text for who stays", 1, x.alive(1, 0, 0));
+        WellNames y = line();
+        Due.sheet(y, 2, 16, 0, 1, 0, 1);
+        DUE.is("27: the first is drunk from once alone", 0, y.alive(2, 0, 0));
+        DUE.is("27: but each time, if it is in the set", 1, y.alive(2, 0, 1));
+        DUE.is("27: nor has the person's place a part in it", 1, atFive(y));
+    }
+
+    private static int atFive(WellNames y) {
+        int somebody = y.person(16, 5);
+        return y.alive(2, somebody, 0);
     }
 
     private static void grown() {
